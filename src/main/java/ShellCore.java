@@ -444,6 +444,7 @@ public final class ShellCore {
         private final int[] lengths;
         private final boolean[] used;
         private int next;
+        private int reached;
 
         Lines() {
             bytes = new byte[ROWS * MAX_LINE];
@@ -453,7 +454,7 @@ public final class ShellCore {
         }
 
         void forgetMarks() {
-            for (int i = 0; i < ROWS; i++) {
+            for (int i = 0; i < reached && i < ROWS; i++) {
                 used[i] = false;
             }
             next = 1;
@@ -488,6 +489,9 @@ public final class ShellCore {
             lengths[line] = kept;
             System.arraycopy(source, start, bytes, line * MAX_LINE, kept);
             next++;
+            if (reached < next) {
+                reached = next;
+            }
             return line;
         }
 
@@ -1700,14 +1704,18 @@ public final class ShellCore {
                 advance();
                 return;
             }
-            expect('$');
+            if (token != '$') {
+                fail(SYNTAX);
+            }
+            advance();
             if (token == WORD) {
                 program.addArgument(command, Program.VARIABLE, tokenName);
-                advance();
-            } else {
-                expect('?');
+            } else if (token == '?') {
                 program.addArgument(command, Program.STATUS, 0L);
+            } else {
+                fail(SYNTAX);
             }
+            advance();
         }
 
         // ---- redirections

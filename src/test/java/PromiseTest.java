@@ -122,6 +122,7 @@ public final class PromiseTest {
         due("4 buffer empty", d.core.truncate(1), false);
         due("4 the old script", d.core.run() + " " + d.core.begun(), "1 7");
         due("4 loaded", d.load("echo a | echo b &"), 1);
+        due("4 no error", d.core.errorKind() + " " + d.core.errorOffset(), "0 -1");
         due("4 buffer empty", d.core.truncate(1), false);
         due("4 anew", d.handles() + d.core.variableCount() + d.core.functionCount() + d.core.isPipefail() + d.core.undoDepth()
             + d.core.begun() + d.core.forks() + d.core.traceCount() + d.core.status() + d.core.actionOf(1) + d.core.actionOf(3)
@@ -129,6 +130,13 @@ public final class PromiseTest {
         due("4 files and terminal stay", d.core.fileCount() + " " + d.core.inputCount(), "1 1");
         d.fill("(");
         throwing("4 throws", ARGUMENT, () -> d.core.load());
+        Driver e = new Driver();
+        e.loadAndRun("echo a b >q; false <q >q;");
+        e.load("echo (");
+        due("4 the next script", e.load("echo c; false;") + " " + e.core.run() + e.outputs(), "2 1/c");
+        due("4 the third script", e.load("x=z; echo d e;") + " " + e.core.run() + e.outputs(), "2 0/c/d e");
+        e.load("echo $x; x=$?;");
+        due("4 lines of earlier runs", e.core.run() + e.outputs() + e.core.run() + e.core.run() + e.outputs(), "0/c/d e/00/c/d e//0/0");
     }
 
     private static void errors() {
@@ -178,6 +186,8 @@ public final class PromiseTest {
         refuses("a \r;", 1, 2);
         refuses("a \0;", 1, 2);
         refuses("a.;", 1, 1);
+        refuses("a;\0", 1, 2);
+        refuses("a;\u00ff", 1, 2);
         tooLongAndTooDeep();
         texts();
     }
@@ -245,6 +255,8 @@ public final class PromiseTest {
         due("7 none more", d.type(""), 40);
         due("7 too many at once", new Driver().type(repeat("\n", 41)), -1);
         due("7 most at once", new Driver().type(repeat("\n", 40)), 40);
+        due("7 too many with one that has no line feed", new Driver().type(repeat("x\n", 40) + "y"), -1);
+        due("7 most with one that has no line feed", new Driver().type(repeat("\n", 39) + "y"), 40);
     }
 
     // ---- promise 8: running
@@ -331,6 +343,10 @@ public final class PromiseTest {
 
     private static void commands() {
         runs("true a b; false a b;", 1, "");
+        runs("(exit 9;); echo $?; (exit 10;); echo $?; (exit 99;); echo $?; (exit 100;); echo $?; (exit 255;); echo $?; (exit 110;); echo $?;",
+            0, "/9/10/99/100/255/110");
+        runs("echo $u a $u b $u; x=abcdefghijkl; read $x; echo $?; y=a; echo $x $y >p; read z <p; read $z; echo $?;", 0, "/ a  b /1/2");
+        runs("echo $y 1 2 3 4 5 6 >p; read n <p; exit $n; echo $?; x=12345; exit $x;", 12345 % 256, "/2");
         runs("echo; echo a b $x c; echo $?;", 0, "//a b  c/0");
         runs("read; echo $?; read a b; echo $?; read $x; echo $?; x=y; read $x <q; echo $?;", 0, "/2/2/2/1");
         Driver d = runsWith("l1\nl2\nl 3\n", "x=y; read $x; echo $y; read x; false; read $?; read if; echo $? $x; read $1;", 2, "/l1/1 l2");
@@ -372,7 +388,9 @@ public final class PromiseTest {
     private static void traps() {
         runs("def f { echo a; false; }; trap f int; raise int; echo $?; trap default int; raise int; echo no;", 130, "/a/0");
         runs("trap ignore hup; raise hup; echo $?; (raise hup; echo b;); trap default hup; (raise hup; echo no;); echo $?;", 0, "/0/b/129");
-        runs("trap f term; raise term; echo $?;", 0, "/0");
+        runs("trap f term; false; raise term; echo $?;", 0, "/0");
+        runs("trap ignore term; false; raise term; echo $?;", 0, "/0");
+        runs("def f { g; }; def g { h; }; def h { k; }; def k { trap f int; false; raise int; echo $?; }; f;", 0, "/0");
         runs("def f { echo a; }; trap f int; (raise int; echo no;); echo $?;", 0, "/130");
         runs("def f { echo a; raise int; echo $?; }; trap f int; raise int;", 0, "/a/a/a/a/0/0/0/0");
         runs("def f { echo $?; false; }; trap f exit; exit 7; echo no;", 7, "/7");
@@ -390,6 +408,7 @@ public final class PromiseTest {
         runs("def f { f; exit 3; }; def g { echo $?; g; }; trap g exit; f;", 3, "/3/0/0/0");
         Driver d = runs("def f { echo a; trap g exit; exit 5; }; def g { echo b; }; trap f exit; exit 3;", 5, "/a");
         due("8 an end during the exit function is not answered by another call", d.core.actionOf(3), Driver.name("g"));
+        due("8 the action becomes default", runs("def f { }; trap f exit; trap f int;", 0, "").core.actionOf(3), 0);
         due("8 an exit function of an earlier run", runAgain("def f { echo a; }; trap f exit | true; trap f exit;"), "/a/a");
         runs("trap default exit; trap ignore exit; exit 4;", 4, "");
         runs("set pipefail on; (false | true;); echo $?; (set pipefail off;); false | true; echo $?;", 0, "/1/1");
@@ -404,6 +423,7 @@ public final class PromiseTest {
 
     private static void jobs() {
         runs("echo a & echo b; wait; echo c;", 0, "/b/a/c");
+        runs("echo a & echo b & exit 3 & wait; echo c $?;", 0, "/a/b/c 0");
         runs("echo a & echo b & echo c;", 0, "/c/a/b");
         runs("false; echo $? & echo $?;", 0, "/0/1");
         runs("exit 3 & exit 4 & wait 2; echo $?; wait 2; echo $?; wait 1; echo $?; wait 3; echo $?; wait; echo $?;", 0, "/4/127/3/127/0");
@@ -508,6 +528,15 @@ public final class PromiseTest {
             due("15 undo", d.core.undo(), i);
         }
         due("15 none left", d.core.undo(), -1);
+        for (int i = 1; i <= 9; i++) {
+            d.type(repeat("l" + i + "\n", i % 3));
+        }
+        due("15 input", d.core.inputCount(), 10);
+        for (int left = 9; left > 3; left -= 3) {
+            due("15 undo", d.core.undo() + d.core.undo() + d.core.undo() + " " + d.core.inputCount(), 3 * (left - 5) + " " + (left - 2));
+        }
+        d.loadAndRun("cat;");
+        due("15 the lines before", d.outputs(), "/a/b/l1/l2/l2");
         positions();
         stoppedBefore();
     }

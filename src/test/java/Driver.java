@@ -60,6 +60,15 @@ final class Driver {
         return text.toString();
     }
 
+    /** The formatted text as it is now. */
+    String text() {
+        int length = 0;
+        while (length < 80 && core.formattedByte(length) >= 0) {
+            length++;
+        }
+        return formatted(length);
+    }
+
     String output(int line) {
         return formatted(core.formatOutput(line));
     }
@@ -103,6 +112,45 @@ final class Driver {
             text.append(':').append(core.traceField(k, 2));
         }
         return text.toString();
+    }
+
+    /** All that can be asked for, but for variables, functions and the formatted text, which is changed by asking. */
+    String state() {
+        ShellCore x = core;
+        StringBuilder s = new StringBuilder();
+        s.append(x.status()).append(x.isStopped()).append(" begun ").append(x.begun()).append(" forks ").append(x.forks());
+        s.append(" jobs ").append(x.jobCount());
+        for (int i = 0; i <= 9; i++) {
+            s.append(' ').append(x.jobStatus(i));
+        }
+        s.append(" undo ").append(x.undoDepth()).append(' ').append(handles());
+        for (int i = 0; i < 10; i++) {
+            s.append(x.handleKind(i));
+        }
+        s.append(" set ").append(x.variableCount()).append(" def ").append(x.functionCount()).append(' ').append(x.isPipefail());
+        for (int i = 0; i < 4; i++) {
+            s.append(' ').append(x.actionOf(i));
+        }
+        s.append(" in ").append(x.inputCount()).append(" out ").append(outputs());
+        for (int i = 0; i < x.fileCount(); i++) {
+            String name = formatted(x.formatName(i));
+            s.append(" file ").append(name).append(x.fileNamed(Driver.name(name)) == i).append(file(name));
+        }
+        s.append(" trace").append(trace()).append(" failures ").append(x.failures());
+        s.append(" error ").append(x.errorKind()).append(' ').append(x.errorOffset());
+        return s.toString();
+    }
+
+    /** The variables and functions of one letter, and what else can be asked for; the formatted text is the handles then. */
+    String everything() {
+        StringBuilder s = new StringBuilder();
+        for (char c = 'a'; c <= 'z'; c++) {
+            String name = String.valueOf(c);
+            s.append(name).append(core.isSet(name(name))).append(variable(name)).append(core.isDefined(name(name))).append(' ');
+        }
+        s.append(state());
+        formatted(core.formatHandles());
+        return s.toString();
     }
 
     static long name(String word) {

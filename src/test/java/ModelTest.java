@@ -22,32 +22,6 @@ public final class ModelTest {
         }
     }
 
-    private static String answers(Driver d) {
-        ShellCore x = d.core;
-        StringBuilder s = new StringBuilder();
-        s.append(x.status()).append(x.isStopped()).append(" begun ").append(x.begun()).append(" forks ").append(x.forks());
-        s.append(" jobs ").append(x.jobCount());
-        for (int i = 0; i <= 9; i++) {
-            s.append(' ').append(x.jobStatus(i));
-        }
-        s.append(" undo ").append(x.undoDepth()).append(' ').append(d.handles());
-        for (int i = 0; i < 10; i++) {
-            s.append(x.handleKind(i));
-        }
-        s.append(" set ").append(x.variableCount()).append(" def ").append(x.functionCount()).append(' ').append(x.isPipefail());
-        for (int i = 0; i < 4; i++) {
-            s.append(' ').append(x.actionOf(i));
-        }
-        s.append(" in ").append(x.inputCount()).append(" out ").append(d.outputs());
-        for (int i = 0; i < x.fileCount(); i++) {
-            String name = d.formatted(x.formatName(i));
-            s.append(" file ").append(name).append(x.fileNamed(Driver.name(name)) == i).append(d.file(name));
-        }
-        s.append(" trace").append(d.trace()).append(" failures ").append(x.failures());
-        s.append(" error ").append(x.errorKind()).append(' ').append(x.errorOffset());
-        return s.toString();
-    }
-
     private static long action(String action) {
         return action.equals("default") ? 0 : action.equals("ignore") ? -2 : Driver.name(action);
     }
@@ -116,7 +90,7 @@ public final class ModelTest {
         int turns = 4 + texts.below(24);
         for (int i = 0; i < turns && wrong < 5; i++) {
             String call = call(texts, d, m, calls);
-            same(call, answers(d), answers(m), calls);
+            same(call, d.state(), answers(m), calls);
             compareNames(d, m, calls);
         }
     }

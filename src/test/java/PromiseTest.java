@@ -1,61 +1,5 @@
 /** At least one test for each promise of the document: ordinary inputs, the edges that it names, wrong inputs. */
-public final class PromiseTest {
-    private static final String OUT_OF_BOUNDS = "IndexOutOfBoundsException";
-    private static final String ARGUMENT = "IllegalArgumentException";
-
-    private static int wrong;
-
-    private interface Call {
-        Object answer();
-    }
-
-    private static void due(String what, Object got, Object want) {
-        if (!String.valueOf(got).equals(String.valueOf(want))) {
-            wrong++;
-            System.out.println(what + ": answered " + got + ", due is " + want);
-        }
-    }
-
-    private static void throwing(String what, String name, Call call) {
-        try {
-            due(what, call.answer(), "throws." + name);
-        } catch (RuntimeException e) {
-            due(what, e.getClass().getSimpleName(), name);
-        }
-    }
-
-    /** Runs a script on a new object; what is due is the status and all output lines. */
-    private static Driver runs(String script, int status, String outputs) {
-        return runsWith("", script, status, outputs);
-    }
-
-    private static Driver runsWith(String input, String script, int status, String outputs) {
-        Driver d = new Driver();
-        d.type(input);
-        due("run of " + script, d.loadAndRun(script) + d.outputs(), status + outputs);
-        return d;
-    }
-
-    private static void refuses(String text, int kind, int offset) {
-        Driver d = new Driver();
-        due("load of " + text, d.load(text), -1);
-        due("error of " + text, d.core.errorKind() + " at " + d.core.errorOffset(), kind + " at " + offset);
-    }
-
-    private static void accepts(String text, int chains) {
-        Driver d = new Driver();
-        due("load of " + text, d.load(text), chains);
-        due("error of " + text, d.core.errorKind() + " at " + d.core.errorOffset(), "0 at -1");
-    }
-
-    private static String repeat(String part, int times) {
-        StringBuilder text = new StringBuilder();
-        for (int i = 0; i < times; i++) {
-            text.append(part);
-        }
-        return text.toString();
-    }
-
+public final class PromiseTest extends Checks {
     // ---- promises 1 to 7
 
     private static void newObject() {
@@ -700,9 +644,6 @@ public final class PromiseTest {
         files();
         terminal();
         tracing();
-        System.out.println(wrong == 0 ? "all answers are as due" : wrong + " answers are not as due");
-        if (wrong != 0) {
-            System.exit(1);
-        }
+        end();
     }
 }

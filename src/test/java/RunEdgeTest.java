@@ -217,6 +217,61 @@ public final class RunEdgeTest extends Checks {
         due("files and terminal are those before", d.core.run() + d.outputs() + d.file("p") + d.core.inputCount(), "0/1/2/k/1/21");
     }
 
+    /** Handles that share an open file do so after undo, too, whichever of the ten they are. */
+    private static void sharedPositionsRestored() {
+        for (int one = 0; one < 10; one++) {
+            int other = (one + 3) % 10;
+            Driver d = new Driver();
+            d.load("if true <q; then read x <&" + one + "; read y <&" + other + "; read z <&" + one
+                + "; else cat >p; true >q; exec " + one + "<p " + other + "<&" + one + "; fi;");
+            d.type("1\n2\n3\n4\n5\n6\n7\n");
+            d.core.run();
+            String first = d.handles();
+            d.core.run();
+            due("handles " + one + " and " + other, d.variable("x") + d.variable("y") + d.variable("z"), "123");
+            d.core.run();
+            due("go on", d.variable("x") + d.variable("y") + d.variable("z"), "456");
+            due("undo", d.core.undo() + d.core.undo() + d.handles(), 2 + 3 + first);
+            d.core.run();
+            due("again", d.variable("x") + d.variable("y") + d.variable("z"), "123");
+            d.core.run();
+            d.core.undo();
+            d.core.run();
+            due("again go on", d.variable("x") + d.variable("y") + d.variable("z"), "456");
+        }
+    }
+
+    /** Each run of three has other statuses of jobs, and a whole trace of its own. */
+    private static void tracesAndJobsRestored() {
+        Driver d = new Driver();
+        d.type("1\n2\n3\n");
+        d.load("read x; exit $x& true& exit $x& " + repeat("(exit $x;); b;", 30) + "if a; then fi; { read y; } <p; wait 1; echo k >p; exit;");
+        String[] before = new String[3];
+        for (int i = 0; i < 3; i++) {
+            d.core.run();
+            before[i] = d.state().replaceAll(" undo .", "");
+            due("jobs", d.core.jobStatus(1) + " " + d.core.jobStatus(2) + " " + d.core.jobStatus(3), (i + 1) + " 0 " + (i + 1));
+        }
+        due("undo", d.core.undo() + d.state().replaceAll(" undo .", ""), "2" + before[1]);
+        due("undo", d.core.undo() + d.state().replaceAll(" undo .", ""), "1" + before[0]);
+        due("run again", d.core.run() + d.state().replaceAll(" undo .", ""), "0" + before[1]);
+        Driver e = new Driver();
+        e.load("if read x; then " + repeat("b;", 30) + repeat("(c; d;);", 30) + "else " + repeat("e; true;", 32) + "fi;");
+        e.core.run();
+        String first = e.trace();
+        e.type("l");
+        e.core.run();
+        due("another trace", e.trace().equals(first) + " " + e.core.traceCount(), "false 60");
+        String second = e.trace();
+        e.core.run();
+        due("the first again", e.trace(), first);
+        e.core.undo();
+        due("undo gives back the whole trace", e.trace(), second);
+        e.core.undo();
+        e.core.undo();
+        due("and the first one", e.trace(), first);
+    }
+
     /** The world is restored in each of its parts, also where it is full. */
     private static void fullWorld() {
         Driver d = new Driver();
@@ -320,6 +375,8 @@ public final class RunEdgeTest extends Checks {
         sixActions();
         whatIsAnAction();
         whatIsRestored();
+        sharedPositionsRestored();
+        tracesAndJobsRestored();
         fullWorld();
         wrongNumbers();
         formattedTexts();

@@ -86,6 +86,9 @@ public final class ShellEdgeTest extends Checks {
             runs("exit " + number + ";", number % 256, "");
             runs("(exit " + number + ";); echo $?; x=$?; exit " + number + ";", number % 256, "/" + number % 256);
         }
+        for (int number = 0; number < 256; number++) {
+            runs("(exit " + number + ";); echo $?;", 0, "/" + number);
+        }
         runs("exit 00000;", 0, "");
         runs("exit 00009;", 9, "");
         runs("exit 00256;", 0, "");
@@ -119,6 +122,7 @@ public final class ShellEdgeTest extends Checks {
             runs("fg " + number + ";", 127, "");
         }
         runs("exit 5& exit 6& wait 00002; echo $?; x=1; fg $x; echo $?; wait 1; echo $?; fg 2; echo $?; wait; echo $?;", 0, "/6/5/127/127/0");
+        runs("false; wait; echo $?; exit 3& false; wait; echo $?; (exit 4;); wait; echo $?;", 0, "/0/0/0");
         Driver d = runs("exit 5& exit 6& exit 7& fg 2; trap f exit; false;", 1, "");
         due("statuses", d.core.jobStatus(1) + " " + d.core.jobStatus(2) + " " + d.core.jobStatus(3), "5 6 7");
         for (int job : new int[] {0, 4, 8, 9, -1, Integer.MAX_VALUE, Integer.MIN_VALUE}) {
@@ -238,6 +242,25 @@ public final class ShellEdgeTest extends Checks {
         runs("if (exit 3;); then echo no; else echo $?; fi; if true; then echo $?; fi; while (exit 3;); do done; echo $?;", 0, "/3/0/0");
     }
 
+    /** What is left behind a body goes on, however the body ended. */
+    private static void bodiesInBodies() {
+        runs("def f{ while false; do done; }; f; echo $?; f; echo a;", 0, "/0/a");
+        runsWith("a\nb\nc", "while read x; do while ! echo $x; do done; if a; then b; else while false; do done; (exit 4;); fi; done; echo $?;", 0,
+            "/a/b/c/4");
+        runsWith("a\nb", "while read x; do echo $x; while false; do done; done | cat; { while read y; do done; } | cat; echo $?;", 0, "/a/b/0");
+    }
+
+    /** A shell that ends in the midst of bodies leaves those of itself, and no others. */
+    private static void endsInBodies() {
+        runs("def f{ while true; do exit 3; done; }; { (f;); echo $?; } >p; echo a; cat <p;", 0, "/a/3");
+        runs("def f{ { while true; do if { exit 3; } 4>q; then fi; done; } 1>&-; }; { (f; echo no;); echo $?; } >p; echo a; cat <p;", 0, "/a/3");
+        runs("def f{ { exit 3; } >q; }; { while ! (f;); do echo $?; { f | { f; }; } 2>r; exit 4; done; } >p; echo no;", 4, "");
+        due("set back", runs("def f{ { exit 3; } >q; }; { while ! (f;); do { f | { f; }; } 2>r; exit 4; done; } >p;", 4, "").handles(), "ttt.......");
+        runs("def f{ { { raise int; } >q; } >r; }; trap f hup; { { raise hup; echo no; } & wait 1; echo $?; } >p; echo a; cat <p;", 0, "/a/129");
+        runs("def f{ { { exit 3; } >q; } >r; }; { { trap f hup; raise hup; } & wait 1; echo $?; } >p; echo a; cat <p;", 0, "/a/3");
+        runs("def f{ { { exit 3; } >q; } >r; }; { (trap f exit; { { exit 4; } >q; } 3>r;); echo $?; } >p; echo a; cat <p;", 0, "/a/3");
+    }
+
     // ---- subshells
 
     private static void copies() {
@@ -268,6 +291,8 @@ public final class ShellEdgeTest extends Checks {
         callsAtTheEnd();
         statusesOfPipelines();
         statusesOfBodies();
+        bodiesInBodies();
+        endsInBodies();
         copies();
         end();
     }

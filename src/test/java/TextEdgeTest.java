@@ -137,6 +137,25 @@ public final class TextEdgeTest extends Checks {
         full(repeat("while a;do b;done;", 38) + "x = 1;", 39, 0, 77, 0);
     }
 
+    /** Texts that make as much code as 700 bytes can, and many such texts one behind the other on one object. */
+    private static void fullTextsAgain() {
+        Driver d = full(repeat("b|b&", 174) + "x=1;", 175, 0, 17, 24);
+        due("the last command", d.variable("x") + d.core.jobCount() + d.core.isStopped() + d.core.traceCount(), "18false17");
+        String[] texts = {repeat("!a;", 233), "echo" + repeat(" 1", 347) + ";", "true" + repeat(">p", 347) + ";", repeat("b|b&", 174) + "x=1;",
+            repeat("a", 13), "(" + repeat("a|", 349), repeat("x=1;", 175), "echo $?" + repeat("<&-", 230) + ";"};
+        Driver e = new Driver();
+        int wrong = 0;
+        for (int i = 0; i < 5; i++) {
+            for (String text : texts) {
+                wrong += e.load(text) < 0 ? 1 : 0;
+            }
+        }
+        due("refused", wrong, 10);
+        due("the last of them", e.core.run() + e.outputs() + e.handles(), "0/0ttt.......");
+        due("one more", e.loadAndRun("x=1; echo $x b >p; cat <p; (exit 3;) | exit 4;") + e.outputs() + e.file("p") + e.core.forks() + e.trace(),
+            "4/0/1 b/1 b3 0:0:0 5:0:0 19:0:0");
+    }
+
     // ---- words
 
     private static void wordsOf12Bytes() {
@@ -408,6 +427,15 @@ public final class TextEdgeTest extends Checks {
         due("undo, too", d.core.undoDepth() + " " + d.core.undo() + d.core.undo(), "2 10");
         due("an empty text", d.load("") + " " + d.core.errorKind() + " " + d.core.errorOffset(), "0 0 -1");
         due("the error is away", d.core.run() + " " + d.core.begun() + d.handles(), "0 0ttt.......");
+        Driver e = runs("exit 3& x=1; def f{}; trap f hup; trap ignore exit; set pipefail on; exec 3>p; (true; while true; do true; done;);", 0, "");
+        due("before a load", e.core.jobCount() + " " + e.core.isStopped() + e.core.begun() + " " + e.core.forks() + e.core.traceCount(),
+            "1 true300 260");
+        e.load("x=2;");
+        due("as if there was no run", e.core.jobCount() + " " + e.core.jobStatus(1) + e.core.isStopped() + e.core.begun() + e.core.forks()
+            + e.core.traceCount() + e.core.failures() + e.core.status() + e.core.undoDepth(), "0 -1false000000");
+        due("anew", e.handles() + e.core.variableCount() + e.core.functionCount() + e.core.isPipefail() + e.core.actionOf(0)
+            + e.core.actionOf(3) + e.core.isSet(24), "ttt.......00false00false");
+        stays("nothing can be undone", e, -1, () -> e.core.undo());
         due("refused twice", d.load("a") + " " + d.load("((((((") + " " + d.core.errorKind() + d.core.errorOffset(), "-1 -1 25");
     }
 
@@ -428,6 +456,7 @@ public final class TextEdgeTest extends Checks {
         truncating();
         textsOf700Bytes();
         manyParts();
+        fullTextsAgain();
         wordsOf12Bytes();
         reservedWords();
         handlesOfRedirections();

@@ -167,6 +167,8 @@ public final class WorldEdgeTest extends Checks {
 
     private static void reading() {
         runs("echo a >p; exec 3<p; read x <&3; echo $?; read y <&3; echo $? $y; echo b >>p; read y <&3; echo $? $y;", 0, "/0/1 /0 b");
+        runs("echo >p; echo >>p; echo a >>p; echo >>p; { read x; read y; read z; read u; echo $? $x $y $z $u; read v; echo $?; } <p; cat <p;", 0,
+            "/0   a /1///a/");
         runs("true >p; exec 3<p; read x <&3; echo $?; echo a >>p; read x <&3; echo $x;", 0, "/1/a");
         runs("echo a >p; echo b >>p; exec 3<p; cat <&3; echo c >p; read x <&3; echo $?; echo d >>p; read x <&3; echo $?; echo e >>p;"
             + "read x <&3; echo $x;", 0, "/a/b/1/1/e");

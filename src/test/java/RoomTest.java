@@ -1,7 +1,7 @@
 import com.sun.management.ThreadMXBean;
 import java.lang.management.ManagementFactory;
 
-/** Dear scripts, run 500 times on one object: the answers of the model, and no room that grows with the calls. */
+/** Dear scripts, run 400 times on one object: the answers of the model, and no room that grows with the calls. */
 public final class RoomTest {
     // The whole of a run of calls has room for some 7.3 million elements; this is bytes.
     private static final long MOST_BYTES = 3000000;
